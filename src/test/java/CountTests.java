@@ -19,6 +19,8 @@ public final class CountTests {
     private static void odds(String text, long above, long below) {
         OneBeatsBoth x = Due.of(text);
         String before = Due.seen(x);
+        // Whoever is only in mind leaves nothing behind.
+        x.fresh(6, 0, 0);
         Due.is("ODDS above the line of " + text, x.odds(0), above);
         Due.is("ODDS below the line of " + text, x.odds(1), below);
         Due.same("nothing changes", Due.seen(x), before);
@@ -146,6 +148,13 @@ public final class CountTests {
         Due.is("five, one won all", x.played(0), 0);
         Due.fill(x, 0, 0, 0, 4, 1, 4, 2, 4, 3, 4);
         Due.is("five, one lost all", x.played(0), 32);
+        x.fresh(0, 0, 0);
+        Due.is("another one in mind leaves nothing behind", x.played(0), 32);
+        Due.is("WAYS tell what was told no more", x.ways(5, 1), 704);
+        Due.fill(x, 0, 0, 0, 1, 1, 2, 0, 1);
+        int twice = x.played(0);
+        Due.fill(x, 0, 0, 0, 1, 1, 2);
+        Due.is("the same two once", x.played(0), twice);
         x.row(0, 0, 0);
         Due.is("nobody", played(new OneBeatsBoth()), 1);
         Due.is("one alone", played(Due.of("p00;")), 1);

@@ -249,6 +249,7 @@ public final class MatchTests {
         Due.is("a ring and the last of all", Due.of("p00;p00;p00;p00;w20;l1;").leavers(), 8);
         Due.is("a ring and the first of all", Due.of("p00;p00;p00;p00;w31;l1;").leavers(), 1);
         Due.is("four of whom two threes are rings", Due.of("p00;p00;p00;p00;w30;w10;w21;w13;l1;").leavers(), 10);
+        Due.is("a PRIEST leaves a ring", Due.of("p60;p00;p00;p00;w31;l1;").leavers(), 1);
         // 1 has two wins, and COUNTS when 3 has left.
         Due.is("a win less, and the NUISANCE COUNTS", Due.of("p00;p11;p00;p00;w20;l1;").leavers(), 8);
         OneBeatsBoth x = Due.of("p00;p00;p00;p00;w20;w30;l1;");
