@@ -2,15 +2,25 @@
 final class Due {
     private static int asked = 0;
     private static int wrong = 0;
+    /** The words of the document that are looked at. */
+    private static String about = "";
 
     private Due() {
+    }
+
+    static void about(String words) {
+        about = words.isEmpty() ? "" : words + ": ";
+    }
+
+    static int asked() {
+        return asked;
     }
 
     static void is(String what, long got, long want) {
         asked++;
         if (got != want) {
             wrong++;
-            System.out.println(what + " answered " + got + ", due is " + want);
+            System.out.println(about + what + " answered " + got + ", due is " + want);
         }
     }
 
@@ -22,7 +32,7 @@ final class Due {
         asked++;
         if (!got.equals(want)) {
             wrong++;
-            System.out.println(what + " answered " + got + ", due is " + want);
+            System.out.println(about + what + " answered " + got + ", due is " + want);
         }
     }
 

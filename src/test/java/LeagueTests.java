@@ -275,30 +275,13 @@ public final class LeagueTests {
         Due.is("a ring with a TWIN, FIGURE 0", Due.of("p00;p40;p00;w20;l1;").lawful(), 1);
         Due.is("a ring with a NOVICE, FIGURE 2", Due.of("p00;p52;p00;w20;l1;").lawful(), 0);
         Due.is("a ring with a NOVICE, FIGURE 1", Due.of("p00;p51;p00;w20;l1;").lawful(), 1);
-        x = seven("0");
+        x = Leagues.seven();
         Due.is("the ring of seven, LAW 2", x.lawful(), 1);
         x.law(1);
         Due.is("the ring of seven, LAW 1", x.lawful(), 1);
-        Due.is("a ring of seven NOVICES who win 3, FIGURE 4", seven("5", 4).lawful(), 0);
-        Due.is("a ring of seven NOVICES who win 3, FIGURE 3", seven("5", 3).lawful(), 1);
-        Due.is("a ring of seven NUISANCES who win 3, FIGURE 2", seven("1", 2).lawful(), 0);
-        Due.is("a ring of seven TWINS who win 3, FIGURE 0", seven("4", 0).lawful(), 1);
-    }
-
-    private static OneBeatsBoth seven(String kind) {
-        return seven(kind, 0);
-    }
-
-    private static OneBeatsBoth seven(String kind, int figure) {
-        OneBeatsBoth x = new OneBeatsBoth();
-        for (int i = 0; i < 7; i++) {
-            Due.read(x, "p" + kind + figure + ";");
-        }
-        for (int i = 0; i < 7; i++) {
-            x.beat(i, (i + 1) % 7);
-            x.beat(i, (i + 2) % 7);
-            x.beat(i, (i + 4) % 7);
-        }
-        return x;
+        Due.is("a ring of seven NOVICES who win 3, FIGURE 4", Leagues.sevenOf(5, 4).lawful(), 0);
+        Due.is("a ring of seven NOVICES who win 3, FIGURE 3", Leagues.sevenOf(5, 3).lawful(), 1);
+        Due.is("a ring of seven NUISANCES who win 3, FIGURE 2", Leagues.sevenOf(1, 2).lawful(), 0);
+        Due.is("a ring of seven TWINS who win 3, FIGURE 0", Leagues.sevenOf(4, 0).lawful(), 1);
     }
 }

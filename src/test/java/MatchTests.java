@@ -14,17 +14,6 @@ public final class MatchTests {
         Due.end("MatchTests");
     }
 
-    /** The ring of seven: each has BEATEN those 1, 2 and 4 behind him. */
-    private static OneBeatsBoth seven() {
-        OneBeatsBoth x = Due.of("p00;p00;p00;p00;p00;p00;p00;");
-        for (int i = 0; i < 7; i++) {
-            x.beat(i, (i + 1) % 7);
-            x.beat(i, (i + 2) % 7);
-            x.beat(i, (i + 4) % 7);
-        }
-        return x;
-    }
-
     private static void promise8Masters() {
         OneBeatsBoth x = Due.of("p00;p00;p00;p00;p60;");
         Due.is("of 2 and 3", x.masters(2, 3), 3);
@@ -61,7 +50,7 @@ public final class MatchTests {
         Due.is("PAIRS", x.orphans(0), 4);
         x = Due.of("p60;p00;p00;");
         Due.is("a PRIEST's are orphans", x.orphans(0), 3);
-        x = seven();
+        x = Leagues.seven();
         Due.is("none", x.orphans(0), 0);
         Due.is("none", x.orphans(1), -4);
         x.beat(6, 5);
@@ -71,7 +60,7 @@ public final class MatchTests {
         // 5 has lost 6 to him, whom he was the master of with 0 and with 2.
         Due.is("two then", x.orphans(0), 2);
         Due.is("the first then", x.orphans(1), 6);
-        x = seven();
+        x = Leagues.seven();
         x.beat(5, 4);
         // 4 was the master of 5 with 6 and with 1.
         Due.is("the first by the lesser", x.orphans(1), 15);
@@ -94,8 +83,8 @@ public final class MatchTests {
         // 0 beats 1, 1 beats 2 and 3, 2 beats 0 and 3, 3 beats 0; 1 lost to 0 alone, 2 to 1 alone.
         x = Due.of("p00;p00;p00;p00;w20;w30;l1;");
         Due.is("two who lost once each", x.holding(), 2);
-        Due.is("the ring of seven", seven().holding(), 21);
-        x = seven();
+        Due.is("the ring of seven", Leagues.seven().holding(), 21);
+        x = Leagues.seven();
         String before = Due.seen(x);
         x.holding();
         Due.same("nothing changes", Due.seen(x), before);
@@ -111,7 +100,7 @@ public final class MatchTests {
         Due.is("three in a row", Due.of("p00;p00;p00;l1;").free(), 1);
         Due.is("three in a row, LAW 2", Due.of("p00;p00;p00;").free(), 0);
         Due.is("four, two who lost once each", Due.of("p00;p00;p00;p00;w20;w30;l1;").free(), 4);
-        OneBeatsBoth x = seven();
+        OneBeatsBoth x = Leagues.seven();
         Due.is("the ring of seven", x.free(), 0);
         x.beat(1, 0);
         Due.is("the ring of seven but for one match", x.free(), 1);
@@ -130,7 +119,7 @@ public final class MatchTests {
         Due.is("one who won all of three", Due.of("p00;p00;p00;w10;w20;").rings(), 0);
         Due.is("four", Due.of("p00;p00;p00;p00;w30;").rings(), 2);
         Due.is("PRIESTS too", Due.of("p60;p60;p60;w20;").rings(), 1);
-        Due.is("the ring of seven", seven().rings(), 14);
+        Due.is("the ring of seven", Leagues.seven().rings(), 14);
     }
 
     private static void promise13Cup() {
@@ -152,7 +141,7 @@ public final class MatchTests {
         Due.is("a ring of three", Due.of("p00;p00;p00;w20;l1;").right(), 0);
         Due.is("three in a row", Due.of("p00;p00;p00;l1;").right(), 1);
         Due.is("three in a row, LAW 2", Due.of("p00;p00;p00;").right(), -4);
-        OneBeatsBoth x = seven();
+        OneBeatsBoth x = Leagues.seven();
         int[][] turns = {{1, 0}, {4, 3}, {2, 1}, {5, 3}};
         for (int k = 0; k < 4; k++) {
             x.beat(turns[k][0], turns[k][1]);
@@ -175,7 +164,7 @@ public final class MatchTests {
         Due.is("three in a row: the first has to be beaten", Due.of("p70;p00;p20;l1;").cheapest(), 12);
         Due.is("he is beaten by who won now", Due.of("p70;p00;p20;w10;w20;w21;l1;").cheapest(), 1);
         Due.is("four in a row, a CHAMPION ahead", Due.of("p70;p00;p00;p00;l1;").cheapest(), 12);
-        OneBeatsBoth x = seven();
+        OneBeatsBoth x = Leagues.seven();
         x.beat(1, 0);
         x.beat(4, 3);
         Due.is("the ring of seven but for two", x.cheapest(), 6);
@@ -225,7 +214,7 @@ public final class MatchTests {
         Due.is("a NUISANCE who wins once, FIGURE 1", x.fresh(1, 1, 0), 1);
         Due.is("a NOVICE who wins once, FIGURE 2", x.fresh(5, 2, 0), 0);
         Due.is("a TWIN who wins once, FIGURE 0", x.fresh(4, 0, 0), 1);
-        x = seven();
+        x = Leagues.seven();
         Due.is("an eighth, whoever is a master of his", x.fresh(0, 0, 0), 64);
         Due.is("an eighth has to lose to three", x.fresh(0, 0, 1), 3);
         x = Due.of("p11;p00;p00;l1;w20;");
@@ -256,6 +245,6 @@ public final class MatchTests {
         String before = Due.seen(x);
         Due.is("four, of whom two may leave", x.leavers(), 12);
         Due.same("nothing changes", Due.seen(x), before);
-        Due.is("the ring of seven", seven().leavers(), 0);
+        Due.is("the ring of seven", Leagues.seven().leavers(), 0);
     }
 }
