@@ -984,8 +984,10 @@ public final class OneBeatsBoth {
         }
 
         void become(League other) {
-            System.arraycopy(other.people, 0, people, 0, SEATS);
-            System.arraycopy(other.beaten, 0, beaten, 0, SEATS);
+            for (int i = 0; i < SEATS; i++) {
+                people[i] = other.people[i];
+                beaten[i] = other.beaten[i];
+            }
             size = other.size;
             law = other.law;
         }

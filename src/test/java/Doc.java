@@ -44,6 +44,11 @@ final class Doc {
         return texts;
     }
 
+    /** All that stands under a heading; nothing, if there is no such one. */
+    static String under(String heading) {
+        return TEXTS.getOrDefault(heading, "");
+    }
+
     /** What is asked from here on is what these words want. */
     static void says(String heading, String words) {
         somethingWasAsked();

@@ -16,17 +16,6 @@ import java.util.regex.Pattern;
 
 /** The face is the document's and nothing else, and the file keeps to what of LANGUAGE.md can be seen. */
 public final class FaceTests {
-    private static final String[] FACE = {
-        "int league(int)", "int one(int,int)", "int comes(int)", "int beat(int,int)", "int law(int)", "int lawful()",
-        "int masters(int,int)", "int orphans(int)", "int holding()", "int free()", "int rings()", "int cup()",
-        "int right()", "int cheapest()", "int fresh(int,int,int)", "int leavers()", "long odds(int)",
-        "int ways(int,int)", "int round(int,int,int)", "int byRounds(int,int)", "int played(int)",
-        "int seeded(int,int)", "int judge(int)", "int image()", "int restore()", "int count(int)",
-        "int keep(int,int,int,int)", "int row(int,int,int)", "int put(int,int,int)",
-        "long element(int,int) throws IllegalArgumentException IllegalStateException",
-        "int copy(int,int,int,int,int)", "int price(int)", "int toss(int)"
-    };
-
     public static void main(String[] args) throws IOException {
         face();
         fieldsAndClasses();
@@ -51,7 +40,20 @@ public final class FaceTests {
         return all.toString();
     }
 
+    /** The methods as the document's face has them, with what they take, but for its names. */
+    private static List<String> asTheDocumentHasThem() {
+        List<String> due = new ArrayList<>();
+        Matcher m = Pattern.compile("public (\\w+) (\\w+)\\(([^)]*)\\)( throws [^;]+)?;").matcher(Doc.under("The public face"));
+        while (m.find()) {
+            String takes = m.group(3).replaceAll(" \\w+(, |$)", "$1").replace(" ", "");
+            String out = m.group(4) == null ? "" : m.group(4).replace(",", "");
+            due.add(m.group(1) + " " + m.group(2) + "(" + takes + ")" + out);
+        }
+        return due;
+    }
+
     private static void face() {
+        Doc.says("The public face", "public final class OneBeatsBoth { public OneBeatsBoth();");
         Due.holds("the class is public", Modifier.isPublic(OneBeatsBoth.class.getModifiers()));
         Due.holds("the class is final", Modifier.isFinal(OneBeatsBoth.class.getModifiers()));
         Due.holds("it is under nothing", OneBeatsBoth.class.getSuperclass() == Object.class);
@@ -76,7 +78,8 @@ public final class FaceTests {
                 Due.holds(m + " has seven parameters at most", m.getParameterCount() <= 7);
             }
         }
-        List<String> due = new ArrayList<>(List.of(FACE));
+        List<String> due = asTheDocumentHasThem();
+        Due.is("the document's methods", due.size(), 33);
         Collections.sort(seen);
         Collections.sort(due);
         Due.same("the face", seen.toString(), due.toString());
@@ -125,6 +128,7 @@ public final class FaceTests {
             "NegativeArraySizeException", "ArrayStoreException", "getMessage", "hashCode", "\\bequals\\b", "toString",
             "\\bnanoTime\\b", "\\bcurrentTimeMillis\\b", "\\bThread\\b", "\\bRandom\\b", "System\\.(?!arraycopy)"
         };
+        Due.holds("arraycopy over numbers alone", !Pattern.compile("arraycopy\\([^;]*(people|Shelves)").matcher(code).find());
         for (String o : out) {
             Due.holds("nothing like " + o, !Pattern.compile(o).matcher(code).find());
         }
